@@ -420,6 +420,9 @@ public final class PromisesTest {
         due("depth", x.depth(3), 3);
         x.addFact(2);
         due("2 as a fact, 1 out of it", x.conclusion(2), 1);
+        for (int place = 0; place < 3; place++) {
+            dueOwnConclusionIn(place);
+        }
         RuleArguments y = new RuleArguments();
         y.addRule(1, 0, 0, 0, 5);
         for (int i = 1; i < 10; i++) {
@@ -430,6 +433,25 @@ public final class PromisesTest {
         due("a chain of all rules", y.arguments(), 12);
         due("its depth", y.depth(11), 12);
         due("its end", y.conclusion(11), -2);
+    }
+
+    /** The head is a conclusion below the part at a place, and below no other part. */
+    private static void dueOwnConclusionIn(int place) {
+        RuleArguments x = new RuleArguments();
+        x.addFact(1);
+        x.addFact(7);
+        x.addFact(8);
+        x.addRule(2, 1, 0, 0, 1);
+        x.addRule(3, 2, 0, 0, 1);
+        int[] body = {7, 8, 8};
+        body[1] = place == 1 ? 3 : body[1];
+        body[0] = place == 0 ? 3 : body[0];
+        body[2] = place == 2 ? 3 : place == 1 ? 8 : 7;
+        x.addRule(1, body[0], body[1], body[2], 1);
+        x.addRule(4, body[0], body[1], body[2], 1);
+        x.addRule(1, 4, 0, 0, 1);
+        due("place " + place, x.arguments(), 6);
+        due("place " + place + ", its last one", x.conclusion(5), 4);
     }
 
     private static void attacks() {
