@@ -39,6 +39,7 @@ public final class FactsAndRulesEdgesTest {
         Due.sentence(outOfRange + ": priority", FactsAndRulesEdgesTest::priorityOutOfRange);
         Due.sentence("a literal comes twice in the body", FactsAndRulesEdgesTest::literalTwice);
         Due.sentence("or one follows a 0", FactsAndRulesEdgesTest::followsZero);
+        Due.sentence("(and nothing else is refused)", FactsAndRulesEdgesTest::everyHeadAndBody);
         Due.sentence("Throws `IllegalStateException` if there are 12 rules",
                 FactsAndRulesEdgesTest::rule13);
         Due.sentence("of several exceptions it is the first one of the throws clause",
@@ -316,6 +317,33 @@ public final class FactsAndRulesEdgesTest {
         refusedRules("third after 0 0", literals, (x, literal) -> x.addRule(2, 0, 0, literal, 5));
         refusedRules("third after 0", literals, (x, literal) -> x.addRule(2, 3, 0, literal, 5));
         refusedRules("both after 0", literals, (x, literal) -> x.addRule(2, 0, 3, literal, 5));
+    }
+
+    /** The head may stand in the body, and so may a literal together with its opposite. */
+    private static void everyHeadAndBody() {
+        for (int head = -11; head <= 11; head++) {
+            for (int first = -11; first <= 11; first++) {
+                for (int second = -11; second <= 11; second++) {
+                    for (int third = -11; third <= 11; third++) {
+                        dueOfRule(head, first, second, third);
+                    }
+                }
+            }
+        }
+    }
+
+    private static void dueOfRule(int head, int first, int second, int third) {
+        boolean inRange = head != 0;
+        for (int number : new int[] {head, first, second, third}) {
+            inRange = inRange && number >= -10 && number <= 10;
+        }
+        int length = first == 0 ? 0 : second == 0 ? 1 : third == 0 ? 2 : 3;
+        boolean filled = (length > 0 || second == 0) && (length > 1 || third == 0);
+        boolean different = length < 2 || first != second;
+        different = different && (length < 3 || (third != first && third != second));
+        Due.same("addRule " + head + " " + first + " " + second + " " + third,
+                Due.outcome(x -> x.addRule(head, first, second, third, 5), new RuleArguments()),
+                inRange && filled && different ? "the answer 0" : Due.ARGUMENT);
     }
 
     private static void rule13() {

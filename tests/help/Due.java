@@ -77,7 +77,8 @@ final class Due {
         return x;
     }
 
-    private static String outcome(Call call, RuleArguments x) {
+    /** The answer, or the name of what the call throws. */
+    static String outcome(Call call, RuleArguments x) {
         try {
             return "the answer " + call.on(x);
         } catch (RuntimeException e) {
